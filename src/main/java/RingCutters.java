@@ -397,7 +397,7 @@ public final class RingCutters {
         void append(int four) {
             for (int shift = 24; shift >= 0; shift -= 8) {
                 if (length >= 0 && length < bytes.length) {
-                    bytes[length] = four >>> shift & 255;
+                    bytes[length] = (four >>> shift) & 255;
                     length++;
                 }
             }
@@ -518,7 +518,7 @@ public final class RingCutters {
         }
 
         int beginRow() {
-            if (kind != WORD || value != WORD_POINT && value != WORD_LINE) {
+            if (kind != WORD || (value != WORD_POINT && value != WORD_LINE)) {
                 return FAULT_TOKEN;
             }
             boolean isPoint = value == WORD_POINT;
@@ -641,7 +641,7 @@ public final class RingCutters {
         }
 
         static boolean holds(int set, int p) {
-            return p >= 0 && p < POINTS && (set >> p & 1) != 0;
+            return p >= 0 && p < POINTS && ((set >> p) & 1) != 0;
         }
 
         boolean isThere(int p) {
@@ -683,7 +683,7 @@ public final class RingCutters {
         void setLines(int a, int b, int many) {
             int i = a * POINTS + b;
             int j = b * POINTS + a;
-            if (isThere(a) && isThere(b) && i < between.length && j < between.length) {
+            if (holds(there, a) && holds(there, b) && i < between.length && j < between.length) {
                 lineCount += many - between[i];
                 between[i] = many;
                 between[j] = many;
@@ -743,7 +743,7 @@ public final class RingCutters {
                 passed |= 1 << a;
                 for (int b = 0; b < POINTS; b++) {
                     if (linesOf(a, b) > 0) {
-                        reached |= 1 << b & set;
+                        reached |= (1 << b) & set;
                     }
                 }
             }
@@ -915,7 +915,7 @@ public final class RingCutters {
                 if (net.isThere(p) && net.endsIn(p, net.there) == 2) {
                     int others = net.besides(p, 1);
                     int a = Rings.lowest(others);
-                    int b = Rings.lowest(others & others - 1);
+                    int b = Rings.lowest(others & (others - 1));
                     if (b == NONE) {
                         b = a;
                     }
@@ -957,7 +957,7 @@ public final class RingCutters {
             for (int q = first + 1; q < POINTS; q++) {
                 int many = net.linesOf(at, q);
                 if (many > 0 && !Net.holds(used, q)) {
-                    sum += many * waysBack(net, first, q, used | 1 << q, depth + 1);
+                    sum += many * waysBack(net, first, q, used | (1 << q), depth + 1);
                 }
             }
             return sum;
@@ -992,7 +992,7 @@ public final class RingCutters {
             for (int set = 1; set <= net.there && set < SETS; set++) {
                 if (net.areThere(set)) {
                     // A ring in a part of the set is one in the set, too.
-                    free[set] = isFree(set & set - 1) && isFreeByTip(set);
+                    free[set] = isFree(set & (set - 1)) && isFreeByTip(set);
                 }
             }
             learnRings(net.there);
@@ -1002,7 +1002,7 @@ public final class RingCutters {
         boolean isFreeByTip(int set) {
             for (int p = 0; p < POINTS; p++) {
                 int others = beside[p] & set;
-                if (Net.holds(set, p) && (doubled[p] & set) == 0 && (others & others - 1) == 0) {
+                if (Net.holds(set, p) && (doubled[p] & set) == 0 && (others & (others - 1)) == 0) {
                     return isFree(set & ~(1 << p));
                 }
             }
@@ -1066,7 +1066,7 @@ public final class RingCutters {
             for (int i = 0; i < many; i++) {
                 int ring = ringAt(i);
                 int less = Integer.bitCount(ring) - Integer.bitCount(best);
-                if (best == 0 || less < 0 || less == 0 && ring < best) {
+                if (best == 0 || less < 0 || (less == 0 && ring < best)) {
                     best = ring;
                 }
             }
@@ -1093,7 +1093,7 @@ public final class RingCutters {
 
         int mostWithLowest(int set, Rings rings) {
             int low = Rings.lowest(set);
-            int best = mostIn(set & set - 1);
+            int best = mostIn(set & (set - 1));
             int end = rings.startOf(low + 1);
             for (int i = rings.startOf(low); i < end; i++) {
                 int ring = rings.ringAt(i);

@@ -1017,6 +1017,10 @@ public final class OracleTest {
             compareAll(r);
             for (int i = r.nextInt(30); i > 0; i--) {
                 change(r);
+                if (r.nextInt(30) == 0) {
+                    tell(netText(r, r.nextInt(13), r.nextInt(21)));
+                    compareAll(r);
+                }
                 if (r.nextInt(4) == 0) {
                     compareAll(r);
                 }

@@ -184,6 +184,15 @@ public final class PromisesTest {
         due("lines may come ahead of points", tell(x, "point a 3;line a a;point b;line b a;line b a;"), 5);
         due("loops", x.point(0, 2), 1);
         due("weight", x.now(5), 4);
+        // what was asked of one net is not answered of the next
+        tell(x, points(3) + lines("ab bc ca"));
+        due("cut", x.cuts(1), 1);
+        due("packed", x.packed(), 1);
+        due("near", x.near(), 4);
+        tell(x, points(3) + lines("aa bb cc"));
+        due("cut", x.cuts(1), 0);
+        due("packed", x.packed(), 3);
+        due("near", x.near(), 7);
     }
 
     private static void faults() {
@@ -193,6 +202,7 @@ public final class PromisesTest {
         right("\npoint\n\na\n9 ; point  b;line a\nb;", 3);
         right("point a 01;", 1);
         right("point abcdefg;point linex;point points;", 3);
+        right("point abcdefg;point abcdefh;point abcdef;point bacdefg;", 4);
         right(points(12), 12);
         right(points(7) + lines("aa aa aa bb bb bb cc cc cc dd dd dd ee ee ee ff ff ff gg gg"), 27);
         right("point a;" + times(592, " "), 1);
@@ -443,6 +453,7 @@ public final class PromisesTest {
         due("doubled triangle", told(points(3) + lines("ab ab bc bc ca ca")).rings(), 8 + 3);
         due("five points, all lines", told(points(5) + lines(FOUR + " ae be ce de")).rings(), 37);
         due("ten points, doubled", told(points(10) + lines("ab ab bc bc cd cd de de ef ef fg fg gh gh hi hi ij ij ja ja")).rings(), 1024 + 10);
+        due("one of all points", told(points(12) + lines("ab bc cd de ef fg gh hi ij jk kl la")).rings(), 1);
         RingCutters x = told(points(4) + lines(FOUR));
         x.drop(0);
         due("one gone", x.rings(), 1);
