@@ -948,7 +948,7 @@ public final class RingCutters {
             return all + ways / 2;
         }
 
-        static long waysBack(Net net, int first, int at, int used, int depth) {
+        private static long waysBack(Net net, int first, int at, int used, int depth) {
             if (depth > POINTS) {
                 return 0;
             }
@@ -983,7 +983,7 @@ public final class RingCutters {
         }
 
         void learn(Net net) {
-            for (int p = 0; p < POINTS; p++) {
+            for (int p = 0; p < beside.length && p < doubled.length; p++) {
                 int self = net.linesOf(p, p) > 0 ? 1 << p : 0;
                 beside[p] = net.besides(p, 1);
                 doubled[p] = net.besides(p, 2) | self;
@@ -1000,7 +1000,7 @@ public final class RingCutters {
 
         /** Without a point that has one end or none there is a ring; with one it takes no part in any. */
         boolean isFreeByTip(int set) {
-            for (int p = 0; p < POINTS; p++) {
+            for (int p = 0; p < beside.length && p < doubled.length; p++) {
                 int others = beside[p] & set;
                 if (Net.holds(set, p) && (doubled[p] & set) == 0 && (others & (others - 1)) == 0) {
                     return isFree(set & ~(1 << p));
@@ -1011,7 +1011,7 @@ public final class RingCutters {
 
         void learnRings(int there) {
             many = 0;
-            for (int p = 0; p < POINTS; p++) {
+            for (int p = 0; p < POINTS && p < starts.length; p++) {
                 starts[p] = many;
                 int bit = 1 << p;
                 for (int set = bit; set <= there; set += 2 * bit) {
@@ -1164,7 +1164,7 @@ public final class RingCutters {
         }
 
         void begin(Net net) {
-            for (int p = 0; p < POINTS; p++) {
+            for (int p = 0; p < weights.length; p++) {
                 weights[p] = net.weightOf(p);
             }
             left = net.there;
@@ -1208,12 +1208,12 @@ public final class RingCutters {
 
         void takeFromRing(int ring) {
             long least = Long.MAX_VALUE;
-            for (int p = 0; p < POINTS; p++) {
+            for (int p = 0; p < weights.length; p++) {
                 if (Net.holds(ring, p)) {
                     least = Math.min(least, weights[p]);
                 }
             }
-            for (int p = 0; p < POINTS; p++) {
+            for (int p = 0; p < weights.length; p++) {
                 if (Net.holds(ring, p)) {
                     weights[p] -= least;
                 }
@@ -1224,7 +1224,7 @@ public final class RingCutters {
         void takeFromAll(Net net) {
             long least = 0;
             int by = 0;
-            for (int p = 0; p < POINTS; p++) {
+            for (int p = 0; p < weights.length; p++) {
                 if (Net.holds(left, p)) {
                     int spare = net.endsIn(p, left) - 1;
                     if (by == 0 || weights[p] * by < least * spare) {
@@ -1236,7 +1236,7 @@ public final class RingCutters {
             // Over the number below times by the least is least itself.
             below *= by;
             sum *= by;
-            for (int p = 0; p < POINTS; p++) {
+            for (int p = 0; p < weights.length; p++) {
                 weights[p] *= by;
                 if (Net.holds(left, p)) {
                     weights[p] -= least * (net.endsIn(p, left) - 1);
@@ -1246,7 +1246,7 @@ public final class RingCutters {
         }
 
         void pileWeightless() {
-            for (int p = POINTS - 1; p >= 0; p--) {
+            for (int p = weights.length - 1; p >= 0; p--) {
                 if (Net.holds(left, p) && weights[p] == 0 && piled < pile.length) {
                     left &= ~(1 << p);
                     pile[piled] = p;

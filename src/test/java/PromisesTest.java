@@ -1,112 +1,5 @@
-import java.util.NoSuchElementException;
-
 /** Every promise of the document by answers worked out by hand: ordinary inputs, edges, wrong inputs. */
-public final class PromisesTest {
-    private static final int NONE = -1;
-    private static int wrong;
-    private static String promise = "";
-
-    private static void due(String what, long got, long want) {
-        if (got != want) {
-            wrong++;
-            System.out.println(promise + ": " + what + " answered " + got + ", due is " + want);
-        }
-    }
-
-    private static void yes(String what, boolean got) {
-        due(what, got ? 1 : 0, 1);
-    }
-
-    private static void no(String what, boolean got) {
-        due(what, got ? 1 : 0, 0);
-    }
-
-    // ---- texts
-
-    private static void feed(RingCutters x, String text) {
-        int ahead = x.now(7);
-        for (int i = 0; i < text.length(); i += 20) {
-            int[] five = new int[5];
-            for (int k = 0; k < 20 && i + k < text.length(); k++) {
-                five[k / 4] |= (text.charAt(i + k) & 255) << 24 - 8 * (k % 4);
-            }
-            x.feed(five[0], five[1], five[2], five[3], five[4]);
-        }
-        yes("end of a text", x.end(ahead + text.length()));
-    }
-
-    private static RingCutters told(String text) {
-        RingCutters x = new RingCutters();
-        tell(x, text);
-        due("fault of " + text, x.fault(), 0);
-        return x;
-    }
-
-    private static int tell(RingCutters x, String text) {
-        feed(x, text);
-        return x.net();
-    }
-
-    private static void fault(String text, int kind, int place) {
-        RingCutters x = told("point keep 7;");
-        due("net of " + text, tell(x, text), -1 - place);
-        due("fault of " + text, x.fault(), kind);
-        due("net kept by " + text, x.now(5), 7);
-        due("tape behind " + text, x.now(7), 0);
-    }
-
-    private static void right(String text, int rows) {
-        RingCutters x = told("point keep 7;");
-        due("net of " + text, tell(x, text), rows);
-        due("fault of " + text, x.fault(), 0);
-    }
-
-    private static String times(int n, String text) {
-        return text.repeat(n);
-    }
-
-    private static String points(int n) {
-        StringBuilder b = new StringBuilder();
-        for (int p = 0; p < n; p++) {
-            b.append("point ").append((char) ('a' + p)).append(';');
-        }
-        return b.toString();
-    }
-
-    private static String lines(String pairs) {
-        StringBuilder b = new StringBuilder();
-        for (String pair : pairs.split(" ")) {
-            b.append("line ").append(pair.charAt(0)).append(' ').append(pair.charAt(1)).append(';');
-        }
-        return b.toString();
-    }
-
-    private static final String TRIANGLE = "point a 2;point b;point c 3;" + lines("ab bc ca");
-    private static final String FOUR = "ab ac ad bc bd cd";
-
-    private static boolean pointThrows(RingCutters x, int p, int what) {
-        try {
-            x.point(p, what);
-            return false;
-        } catch (NoSuchElementException e) {
-            return true;
-        }
-    }
-
-    private static boolean boundThrows(RingCutters x, int what) {
-        try {
-            x.bound(what);
-            return false;
-        } catch (NoSuchElementException e) {
-            return true;
-        }
-    }
-
-    private static void bound(RingCutters x, long above, long below) {
-        due("bound above", x.bound(0), above);
-        due("bound below", x.bound(1), below);
-    }
-
+public final class PromisesTest extends Checks {
     // ---- the promises
 
     private static void newObject() {
@@ -792,10 +685,6 @@ public final class PromisesTest {
         due("rings", y.rings(), 0);
     }
 
-    private static void promise(String name) {
-        promise = name;
-    }
-
     private static void readingPromises() {
         promise("1 new object");
         newObject();
@@ -863,7 +752,6 @@ public final class PromisesTest {
         readingPromises();
         cutPromises();
         changePromises();
-        System.out.println(wrong == 0 ? "all answers are as due" : wrong + " answers are not as due");
-        System.exit(wrong == 0 ? 0 : 1);
+        finish();
     }
 }
