@@ -94,6 +94,13 @@ public final class ChangeEdgesTest extends Checks {
         due("lines", x.now(2), 5);
         due("not taken", x.now(3), 0);
         due("gone", x.lines(0, 1), NONE);
+        RingCutters middle = weighed("1219", "ab bc ad ad cd cd ac");
+        due("b, between a and c", middle.shrink(), 48 + 1);
+        due("line", middle.lines(0, 2), 2);
+        due("no loop", middle.lines(0, 0), 0);
+        due("the other weight alone is not above", weighed("3219", "ab bc ad ad cd cd ac").shrink(), 48 + 1);
+        due("the first weight alone is not above", weighed("1239", "ab bc ad ad cd cd ac").shrink(), 48 + 1);
+        due("both are above", weighed("3239", "ab bc ad ad cd cd ac").shrink(), NONE);
         promise("21: RULE 3: a LINE comes to those that are there");
         RingCutters y = told(points(3) + lines("ab bc ca bc"));
         due("shrink", y.shrink(), 48);
@@ -150,6 +157,12 @@ public final class ChangeEdgesTest extends Checks {
         due("undo", x.undo(), 0);
         due("lines", x.now(2), 18);
         due("not taken", x.now(3), 0);
+        promise("22: one STEP is an act, too");
+        RingCutters single = told(points(5) + lines(FOUR));
+        due("the point alone", single.shrinkAll(), 1);
+        due("one act", single.now(6), 1);
+        due("undo", single.undo(), 0);
+        due("there", single.now(1), 31);
         promise("22: as many as shrink() has");
         RingCutters all = weighed("329954", "ab ab ab bc cd de ef fa ad");
         RingCutters one = weighed("329954", "ab ab ab bc cd de ef fa ad");
@@ -546,6 +559,7 @@ public final class ChangeEdgesTest extends Checks {
             }
             int kept = Math.min(8, acts);
             for (int i = 1; i <= kept; i++) {
+                due("a refused act takes no place", x.drop(1) + x.join(0, 1) + x.part(0, 0) + x.weigh(0, 10), -4);
                 due("undo " + i + " of " + acts, x.undo(), kept - i);
                 due("weight", x.point(0, 0), 1 + (acts - i) % 9);
             }
@@ -624,11 +638,12 @@ public final class ChangeEdgesTest extends Checks {
         y.drop(1);
         yes("image", y.image(0));
         tell(y, TRIANGLE);
+        due("what is asked of one net", y.fewest(1) + y.packed() + y.near(), 1 + 1 + 2);
         yes("restore", y.restore(0));
+        due("is not told of the one kept", y.fewest(1) + y.packed() + y.near(), 0);
         due("told", y.now(0), 3);
         due("there", y.now(1), 4);
         due("taken", y.now(3), 1);
-        due("what is asked is asked anew", y.rings() + y.near() + y.packed(), 0);
     }
 
     private static void restore() {

@@ -347,6 +347,12 @@ public final class QuestionEdgesTest extends Checks {
         RingCutters tail = told("point a 5;point b 5;point c;point d;point e;" + lines("ab ab bc cd de"));
         due("the tail is not asked", tail.near(), 2);
         bound(tail, 5, 1);
+        // a goes first, or b and then a: four are left, with three ends each
+        String four = "cd ce cf de df ef";
+        due("the first alone", told(points(6) + lines(four)).near(), 16 + 32);
+        bound(told(points(6) + lines(four)), 3, 2);
+        due("the first behind the second", told(points(6) + lines(four + " ac ab")).near(), 16 + 32);
+        bound(told(points(6) + lines(four + " ac ab")), 3, 2);
         promise("19: all but one at most have just two ENDS: none, one, two");
         RingCutters none = told("point a 4;point b 3;" + lines("ab ab"));
         due("none", none.near(), 2);
@@ -359,6 +365,14 @@ public final class QuestionEdgesTest extends Checks {
         // 2/2 times (3 + 1 - 2)
         due("two", two.near(), 1);
         bound(two, 2, 1);
+        // three ways from a to b: each ring has these two; 1 by 1 from each, a and b 9 less 2
+        RingCutters ways = told("point a 9;point b 9;point c;point d;point e;" + lines("ac cb ad db ae eb"));
+        due("two, and others", ways.near(), 8 + 16);
+        bound(ways, 2, 1);
+        // the same, but that a fourth ring a f has a alone
+        RingCutters both = told("point a 9;point b 9;point c;point d;point e;point f 2;" + lines("ac cb ad db ae eb af af"));
+        due("one, among others", both.near(), 8 + 16 + 32);
+        bound(both, 4, 1);
         promise("19: of the one with the least number");
         // ring a b c is 7, ring d e is 24; c joins both
         RingCutters least = told("point a 3;point b 3;point c 4;point d 2;point e 2;" + lines("ab bc ca cd de ec"));
@@ -382,6 +396,10 @@ public final class QuestionEdgesTest extends Checks {
         // ring a b: a 0, b 1; ring b c: b 0; a goes back
         due("b alone", x.near(), 2);
         bound(x, 2, 1);
+        // ring a b: a 0, b 2; ring b c: both 0; b, on top of c, goes back, as a and c are a cut
+        RingCutters back = told("point a;point b 3;point c 2;" + lines("ab ab bc bc"));
+        due("the top one, though it alone would be a cut", back.near(), 5);
+        bound(back, 3, 1);
         promise("19: a weight that comes to 0 where it was taken as a fraction");
         RingCutters y = told("point a 2;point b 3;point c 4;point d 5;" + lines(FOUR));
         // 2/2 from each of three ends: a 0, b 1, c 2, d 3; then ring b c d: 1
@@ -396,6 +414,10 @@ public final class QuestionEdgesTest extends Checks {
         // (8 + 1 - 5) times 1/3, then the ring b c d e: 9 less 2/3
         due("the middle and one", wheel.near(), 1 + 16);
         bound(wheel, 29, 3);
+        // five round the middle: b has 2 by 2, a 5 by 4; then a 1 by 3 of what is left, with 7 lines, 5 points
+        RingCutters five = told("point a 5;point b 2;point c 9;point d 9;point e 9;point f 9;" + lines("ab ac ad ae af bc cd de ef fb"));
+        due("the middle and the light one", five.near(), 3);
+        bound(five, 5 + 1, 1);
         promise("20: that least times (LINES and PARTS together, less POINTS)");
         RingCutters parts = told(points(8).replace(";", " 3;") + lines(FOUR + " ef eg eh fg fh gh"));
         bound(parts, 9, 1);
@@ -417,6 +439,12 @@ public final class QuestionEdgesTest extends Checks {
         // a and b have two ends, ring a c d: all weights 1; what is left is one point without lines
         bound(x, 1, 1);
         due("near", x.near(), 8);
+        RingCutters other = told(points(2) + lines("aa"));
+        due("near", other.near(), 1);
+        other.part(0, 0);
+        other.join(1, 1);
+        due("near, of another net", other.near(), 2);
+        bound(other, 1, 1);
         promise("20: another what");
         for (int odd : ODD) {
             yes("bound " + odd, boundThrows(x, odd));

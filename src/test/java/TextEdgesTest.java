@@ -363,6 +363,25 @@ public final class TextEdgesTest extends Checks {
         yes("end", x.end(8));
         feed(x, ";line ab ab;");
         due("net", x.net(), 2);
+        cutOff("lin", "e", 1, 0);
+        cutOff("line", "s", 1, 4);
+        cutOff("point a 1", "0;", 1, 9);
+        cutOff("point a;line a a", "b;", 1, 16);
+        cutOff("point a;point b", ";", 1, 15);
+        cutOff("point abcdefg", "h;", 1, 13);
+        yes("nothing at all", x.end(0));
+        feed(x, "point a;");
+        yes("end", x.end(0));
+        due("net", x.net(), 0);
+    }
+
+    /** Of a longer text the first bytes alone are a text. */
+    private static void cutOff(String text, String behind, int kind, int place) {
+        RingCutters x = new RingCutters();
+        feed(x, text + behind);
+        yes("end of " + text, x.end(text.length()));
+        due("net of " + text, x.net(), -1 - place);
+        due("fault of " + text, x.fault(), kind);
     }
 
     private static void net() {
@@ -395,6 +414,14 @@ public final class TextEdgesTest extends Checks {
         due("net", tell(x, TRIANGLE), 6);
         due("acts", x.now(6), 0);
         due("undo", x.undo(), NONE);
+        promise("4: what was asked of a NET is not told of the next");
+        RingCutters y = told(points(3) + lines("ab bc ca"));
+        due("asked", y.fewest(1) + y.packed() + y.near() + y.bound(0), 1 + 1 + 4 + 1);
+        tell(y, points(3) + lines("bb cc"));
+        due("fewest", y.fewest(1), 6);
+        due("packed", y.packed(), 2);
+        due("near", y.near(), 6);
+        bound(y, 2, 1);
         promise("4: of an empty tape, a NET without POINTS");
         x.drop(0);
         due("net", x.net(), 0);
