@@ -803,7 +803,7 @@ public final class RingCutters {
 
         Past() {
             places = new Net[PLACES];
-            for (int i = 0; i < PLACES; i++) {
+            for (int i = 0; i < places.length; i++) {
                 places[i] = new Net();
             }
         }
@@ -973,8 +973,8 @@ public final class RingCutters {
         final int[] beside = new int[POINTS];
         final int[] doubled = new int[POINTS];
         final int[] ringSets = new int[MOST_RINGS];
-        // Where the rings begin whose least point is p; behind them begin those of p + 1.
-        final int[] starts = new int[POINTS + 1];
+        // Where the rings begin whose least point is p; behind them begin those of p + 1, or none do.
+        final int[] starts = new int[POINTS];
         int many;
 
         /** The least point of a set; NONE, if it has none. */
@@ -988,11 +988,10 @@ public final class RingCutters {
                 beside[p] = net.besides(p, 1);
                 doubled[p] = net.besides(p, 2) | self;
             }
-            free[0] = true;
-            for (int set = 1; set <= net.there && set < SETS; set++) {
+            for (int set = 0; set <= net.there && set < free.length; set++) {
                 if (net.areThere(set)) {
                     // A ring in a part of the set is one in the set, too.
-                    free[set] = isFree(set & (set - 1)) && isFreeByTip(set);
+                    free[set] = set == 0 || (isFree(set & (set - 1)) && isFreeByTip(set));
                 }
             }
             learnRings(net.there);
@@ -1011,7 +1010,7 @@ public final class RingCutters {
 
         void learnRings(int there) {
             many = 0;
-            for (int p = 0; p < POINTS && p < starts.length; p++) {
+            for (int p = 0; p < starts.length; p++) {
                 starts[p] = many;
                 int bit = 1 << p;
                 for (int set = bit; set <= there; set += 2 * bit) {
@@ -1021,7 +1020,6 @@ public final class RingCutters {
                     }
                 }
             }
-            starts[POINTS] = many;
         }
 
         boolean isLeastRing(int set) {
@@ -1079,10 +1077,9 @@ public final class RingCutters {
         final int[] most = new int[SETS];
 
         void learn(int there, Rings rings) {
-            most[0] = 0;
-            for (int set = 1; set <= there && set < SETS; set++) {
+            for (int set = 0; set <= there && set < most.length; set++) {
                 if ((set & ~there) == 0) {
-                    most[set] = mostWithLowest(set, rings);
+                    most[set] = set == 0 ? 0 : mostWithLowest(set, rings);
                 }
             }
         }
